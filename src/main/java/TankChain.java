@@ -20,7 +20,10 @@ public final class TankChain {
     private static final int MOST_OWNER = 9;
     private static final int MOST_RAIN = 50;
     private static final int MOST_DAY = 1000;
+    private static final int SEEP_PART = 50;
+    private static final int HUNDREDTHS = 100;
     private static final int SILT_DAYS = 100;
+    private static final int SILT_PART = 50;
     private static final int MOST_TRIED_DAYS = 10;
     private static final int MOST_TRIED_TANKS = 3;
     private static final int TRIED_OPENINGS = 5;
@@ -61,7 +64,7 @@ public final class TankChain {
         this.tanks = new Tank[many];
         Tank below = null;
         for (int i = many - 1; i >= 0; i--) {
-            below = new Tank(below);
+            below = new Tank(i, below);
             this.tanks[i] = below;
         }
         flow = new Flow(below, inForce);
@@ -338,14 +341,14 @@ public final class TankChain {
 
     private int allWater() {
         int all = 0;
-        for (Tank one : tanks) {
+        for (Tank one = flow.head; one != null; one = one.below) {
             all += one.now.water;
         }
         return all;
     }
 
     private void orderAnew() {
-        for (Tank one : tanks) {
+        for (Tank one = flow.head; one != null; one = one.below) {
             one.firstField = null;
         }
         for (int i = 0; i < fieldsThere; i++) {
@@ -358,19 +361,18 @@ public final class TankChain {
     }
 
     private void addSilt() {
-        for (Tank one : tanks) {
-            one.silt = Math.min(one.size, one.silt + one.size / 50);
+        for (Tank one = flow.head; one != null; one = one.below) {
+            one.silt = Math.min(one.size, one.silt + one.size / SILT_PART);
         }
     }
 
     private void keepTanks() {
         int broke = 0;
         int first = NONE;
-        for (int i = 0; i < tanks.length; i++) {
-            Tank one = tanks[i];
+        for (Tank one = flow.head; one != null; one = one.below) {
             if (one.after.breached && !one.now.breached) {
                 one.breachedOn = daysGone;
-                first = broke == 0 ? i : first;
+                first = broke == 0 ? one.number : first;
                 broke++;
             }
             one.now.becomeAs(one.after);
@@ -445,6 +447,7 @@ public final class TankChain {
     }
 
     private static final class Tank {
+        final int number;
         final Tank below;
         final Pool now = new Pool();
         final Pool after = new Pool();
@@ -455,7 +458,8 @@ public final class TankChain {
         int breachedOn = NONE;
         Field firstField = null;
 
-        Tank(Tank below) {
+        Tank(int number, Tank below) {
+            this.number = number;
             this.below = below;
         }
 
@@ -619,13 +623,13 @@ public final class TankChain {
             for (Tank one = head; one != null; one = one.below) {
                 fromAbove = sentDown(one, rain * one.catches, fromAbove);
             }
-            sums.out = fromAbove;
+            sums.out += fromAbove;
         }
 
         private int sentDown(Tank tank, int rained, int fromAbove) {
             Pool pool = tank.after;
             int water = pool.water + rained + fromAbove;
-            int seep = water / 50;
+            int seep = water / SEEP_PART;
             water -= seep;
             int taken = takenByFields(tank, water);
             water -= taken;
@@ -645,7 +649,7 @@ public final class TankChain {
         }
 
         private int takenByFields(Tank tank, int water) {
-            int held = tank.size * custom.hold / 100;
+            int held = tank.size * custom.hold / HUNDREDTHS;
             int given = Math.min(tank.after.opening, Math.max(0, water - held));
             int reach = tank.isBadYearWith(water) ? custom.near : MOST_FAR;
             int areas = areasWithin(tank, reach);

@@ -6,6 +6,7 @@ public final class CustomTextTest {
         customEmptiesTheTape();
         textsThatAreOne();
         textsThatAreNone();
+        textEndsAsTold();
         mostStatements();
         faultIsOfTheLatest();
         faultyCustomLeavesWhatWas();
@@ -88,6 +89,10 @@ public final class CustomTextTest {
         none("fast;", 0);
         none("fairs;", 0);
         none("fai", 0);
+        none("gair;", 0);
+        none("fairz;", 0);
+        none("zfair;", 0);
+        none("afair;", 0);
         none("fair", 4);
         none("fair  ", 6);
         none(" fair ", 6);
@@ -139,6 +144,21 @@ public final class CustomTextTest {
         none("\u00a0fair;", 0);
         none("\u008afair;", 0);
         none("fair\u00bb", 4);
+    }
+
+    private static void textEndsAsTold() {
+        TankChain x = new TankChain(2);
+        Due.put(x, "fairs;");
+        Due.due("custom(4) of fairs;", x.custom(4), -1);
+        Due.due("its fault", x.fault(), 4);
+        Due.put(x, "near 123;");
+        Due.due("custom(7) of near 123;", x.custom(7), -1);
+        Due.due("its fault", x.fault(), 7);
+        Due.put(x, "near 1234;");
+        Due.due("custom(8) of near 1234;", x.custom(8), -1);
+        Due.due("its fault", x.fault(), 8);
+        Due.put(x, "fair;fair");
+        Due.due("custom(5) of fair;fair", x.custom(5), 1);
     }
 
     private static void mostStatements() {
@@ -200,5 +220,8 @@ public final class CustomTextTest {
         x.water(0, 20);
         x.day(0);
         Due.dueRow("got with no near, hold and fair", Due.got(x, 3), 5, 0, 2);
+        x.water(0, 5);
+        x.day(0);
+        Due.dueRow("got of all there is", Due.got(x, 3), 5, 0, 0);
     }
 }

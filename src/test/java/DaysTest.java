@@ -129,6 +129,14 @@ public final class DaysTest {
         x.water(0, 3);
         x.day(0);
         Due.due("taken with none", x.told(0, 8), 3);
+        x.field(0, 0, 1, 0, false);
+        Due.take(x, "hold 20; hold 11;");
+        x.water(0, 10);
+        x.day(0);
+        Due.due("taken of 10 less 10", x.told(0, 8), 0);
+        x.water(0, 11);
+        x.day(0);
+        Due.due("taken of 11 less 10", x.told(0, 8), 1);
     }
 
     private static void badYear() {
@@ -210,6 +218,10 @@ public final class DaysTest {
         y.open(0, 6);
         y.day(0);
         Due.dueRow("got, remainders alike", Due.got(y, 4), 2, 2, 1, 1);
+        TankChain w = fairTank(1, 4);
+        w.open(0, 2);
+        w.day(0);
+        Due.dueRow("got of 2 by 5", Due.got(w, 2), 0, 2);
         TankChain z = fairTank(3, 3, 3);
         z.field(0, 0, 3, 0, true);
         Due.take(z, "fair; first temple;");
@@ -255,6 +267,25 @@ public final class DaysTest {
         x.water(1, 100);
         x.day(0);
         Due.due("taken where no field is", x.told(1, 8), 0);
+        TankChain y = new TankChain(2);
+        for (int area = 1; area <= 5; area++) {
+            y.field(0, area < 4 ? 5 : 1, area, 0, false);
+        }
+        Due.take(y, "fair; near 1;");
+        y.open(0, 9);
+        y.water(0, 40);
+        y.day(0);
+        Due.dueRow("got, far ones' areas don't count", Due.got(y, 5), 0, 0, 0, 4, 5);
+        TankChain z = new TankChain(2);
+        z.field(0, 5, 1, 0, false);
+        z.field(0, 1, 1, 0, false);
+        z.field(0, 1, 1, 0, false);
+        z.field(0, 1, 1, 0, false);
+        Due.take(z, "fair; near 1;");
+        z.open(0, 1);
+        z.water(0, 40);
+        z.day(0);
+        Due.dueRow("got, a far one has no remainder", Due.got(z, 4), 0, 1, 0, 0);
     }
 
     private static void drainAndSpill() {
@@ -497,6 +528,19 @@ public final class DaysTest {
         Due.due("lost(0, 1, 1, 1), what would run down", x.lost(0, 1, 1, 1), 67 - 13);
         Due.due("still whole", x.told(0, 6), 0);
         Due.due("opening", x.told(0, 4), 10);
+        TankChain y = new TankChain(2);
+        y.field(0, 0, 1, 0, false);
+        y.field(0, 0, 2, 0, false);
+        y.open(0, 3);
+        y.water(0, 30);
+        Due.due("lost(0, 1, 1, 0) of a small field", y.lost(0, 1, 1, 0), -1);
+        Due.due("lost(0, 1, 10, 0)", y.lost(0, 1, 10, 0), -10);
+        TankChain z = new TankChain(2);
+        z.tank(0, 5, 10, 500);
+        z.field(0, 0, 1, 0, false);
+        z.open(0, 20);
+        z.water(0, 10);
+        Due.due("lost(0, 1, 1, 1), what would spill, of 1", z.lost(0, 1, 1, 1), 1);
     }
 
     private static void mostFed() {
@@ -512,6 +556,12 @@ public final class DaysTest {
         Due.due("its opening", x.most(0, 1, 10, 0, 1), 20);
         Due.due("most(1, 1, 1, 0, 0), no field", x.most(1, 1, 1, 0, 0), 0);
         Due.due("its opening", x.most(1, 1, 1, 0, 1), 0);
+        TankChain z = new TankChain(2);
+        z.field(0, 0, 20, 0, false);
+        z.field(0, 0, 5, 0, false);
+        z.water(0, 49);
+        Due.due("most with 20 and no more", z.most(0, 1, 1, 0, 0), 20);
+        Due.due("its opening", z.most(0, 1, 1, 0, 1), 20);
         TankChain y = new TankChain(2);
         y.field(0, 0, 9, 0, false);
         y.field(1, 0, 4, 0, false);
@@ -570,6 +620,10 @@ public final class DaysTest {
         for (int[] a : refused) {
             Due.due("most" + java.util.Arrays.toString(a), x.most(a[0], a[1], 1, 0, a[2]), -1);
         }
+        TankChain y = new TankChain(11);
+        Due.due("most(0, 4, 1, 0, 0) of eleven", y.most(0, 4, 1, 0, 0), -1);
+        Due.due("most(8, 3, 1, 0, 3) of eleven", y.most(8, 3, 1, 0, 3), 0);
+        Due.due("most(9, 3, 1, 0, 3) of eleven", y.most(9, 3, 1, 0, 3), -1);
         Due.due("most(0, 3, 10, 50, 3)", x.most(0, 3, 10, 50, 3), 0);
         Due.due("most(2, 1, 1, 0, 1)", x.most(2, 1, 1, 0, 1), 0);
     }
