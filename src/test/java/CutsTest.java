@@ -8,11 +8,13 @@ public final class CutsTest {
         areaThatIsJustLeft();
         sharesThatDontDivide();
         sharesAroundAllAreas();
+        sharesOfTheNearOnes();
         fortyAlikeShares();
         halfThatDrains();
         roomJustFull();
         bankJustHolds();
         bankHoldsWhatComesDown();
+        firstSizeAndBank();
         breachedBreachesNoMore();
         siltOfAFiftieth();
         siltAheadOfTheDay();
@@ -28,6 +30,7 @@ public final class CutsTest {
         mostOfAlikes();
         mostOverDays();
         sumsOfADay();
+        toldBelowNothing();
         greatestSums();
         Due.close();
     }
@@ -255,6 +258,34 @@ public final class CutsTest {
         Due.dueRow("got of what hold leaves", Due.got(y, 3), 0, 4, 4);
     }
 
+    /** In a bad year those at NEAR are among those that may be fed, those one farther are not. */
+    private static void sharesOfTheNearOnes() {
+        for (int near = 0; near <= 9; near++) {
+            TankChain x = new TankChain(2);
+            x.field(0, 0, 4, 0, false);
+            x.field(0, near, 5, 0, false);
+            if (near < 9) {
+                x.field(0, near + 1, 1, 0, false);
+            }
+            Due.take(x, "fair;near " + near + ";");
+            int fields = x.count(2);
+            x.open(0, 8);
+            x.water(0, 49);
+            x.day(0);
+            // 32 and 40 by 9: 3 and 5, 4 and 4
+            Due.dueRow("got of 8 by 9, near " + near, java.util.Arrays.copyOf(Due.got(x, fields), 2), 4, 4);
+            x.open(0, 9);
+            x.day(0);
+            Due.dueRow("got of 9 by 9, near " + near, java.util.Arrays.copyOf(Due.got(x, fields), 2), 4, 5);
+            x.open(0, 20);
+            x.day(0);
+            Due.due("given and taken of 20, near " + near, x.told(0, 8), 9);
+            x.water(0, 99);
+            x.day(0);
+            Due.due("given and taken in a good year, near " + near, x.told(0, 8), near < 9 ? 10 : 9);
+        }
+    }
+
     private static void fortyAlikeShares() {
         TankChain x = new TankChain(2);
         for (int f = 0; f < 40; f++) {
@@ -395,6 +426,21 @@ public final class CutsTest {
             Due.due("tank 2, bank 0", y.told(2, 6), more);
             Due.due("out", y.count(4), more == 0 ? 0 : 32);
             Due.dueRow("breach", new int[] {y.breach(0), y.breach(1), y.breach(2)}, 0, 1 + 2 * more, 0);
+        }
+    }
+
+    /** A tank of which nothing was told: 100, and a bank of 50 that just holds 150 and not 151. */
+    private static void firstSizeAndBank() {
+        for (int more = 0; more <= 1; more++) {
+            TankChain x = new TankChain(2);
+            x.tank(0, 1, 10, 0);
+            x.water(0, 4 + more);
+            x.water(1, 100);
+            x.day(50);
+            // 53 or 54 run down: 153 or 154, less 3
+            Due.due("spill", x.told(1, 9), more == 0 ? 50 : 151);
+            Due.due("water", x.told(1, 3), more == 0 ? 100 : 0);
+            Due.due("breached", x.told(1, 6), more);
         }
     }
 
@@ -770,6 +816,22 @@ public final class CutsTest {
         Due.due("water(1, 1)", x.water(1, 1), true);
         Due.due("told, less what was less", x.count(9), 97 - 39);
         Due.due("out ever, by days alone", x.count(4), 59);
+    }
+
+    /** What was less may be more than what was more, as rain brought it. */
+    private static void toldBelowNothing() {
+        TankChain x = oneTank(1, 100, 500);
+        x.day(1);
+        Due.due("water(0, 0) of 1", x.water(0, 0), true);
+        Due.due("told, 1 less", x.count(9), -1);
+        x.day(40);
+        Due.due("water(0, 40) of 40", x.water(0, 40), true);
+        Due.due("told, as much", x.count(9), -1);
+        x.water(0, 39);
+        Due.due("told, 1 less", x.count(9), -2);
+        x.water(0, 42);
+        Due.due("told, 3 more", x.count(9), 1);
+        Due.due("rain, less what was told less, is the water", x.count(7) + x.count(9), x.count(3));
     }
 
     /** As much as can come in 512 calls: no sum turns over. */

@@ -272,6 +272,8 @@ public final class RangesTest {
         new Range("rain behind days", 0, 50, -1, RangesTest::silted, (x, v) -> v == -1 ? -1 : x.day(v))
             .answers((x, v) -> 101);
         TankChain x = plain();
+        Due.due("day(-1), none told before", x.day(-1), 1);
+        Due.due("rain, 0 at first", x.count(7), 0);
         int[] refused = {51, -2, LEAST, GREATEST};
         for (int rain : refused) {
             x.day(7);

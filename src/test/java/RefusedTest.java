@@ -142,10 +142,16 @@ public final class RefusedTest {
         ask("lost(0, 1, 10, 50)", x -> x.lost(0, 1, 10, 50));
         ask("most(0, 1, 10, 50, 0)", x -> x.most(0, 1, 10, 50, 0));
         ask("most(0, 2, 10, 1, 2)", x -> x.most(0, 2, 10, 1, 2));
-        ask("all there is to ask", x -> {
-            Look.at(x);
-            return 0;
-        });
+        ask("all there is to ask of the first ones", RefusedTest::askOfTheFirst);
+    }
+
+    private static long askOfTheFirst(TankChain x) {
+        long sum = x.fault();
+        for (int what = -1; what <= 12; what++) {
+            sum += x.told(0, what) + x.fieldOf(0, what) + x.order(0, what);
+            sum += x.owner(what) + x.breach(what) + x.count(what);
+        }
+        return sum;
     }
 
     private static void later(String name, ToLongFunction<TankChain> of) {
