@@ -209,6 +209,8 @@ public final class CustomTextTest {
         x.water(0, 66);
         x.day(0);
         Due.dueRow("got, not fair", Due.got(x, 3), 0, 9, 2);
+        x.field(0, 0, 20, 0, false);
+        Due.dueRow("order of a field told behind a fault", Due.ordered(x, 0, 5), 3, 1, 2, 0, -1);
     }
 
     private static void customTakesThePlaceOfWhatWas() {

@@ -5,6 +5,7 @@ public final class CutsTest {
         rainTimesCatch();
         halfOfSize();
         givenByOpeningAndHold();
+        holdOfAllOfSize();
         areaThatIsJustLeft();
         sharesThatDontDivide();
         sharesAroundAllAreas();
@@ -144,6 +145,30 @@ public final class CutsTest {
             String given = "given of " + one[0] + ", opening " + one[1] + ", hold " + one[2];
             Due.due(given, x.told(0, 8), one[3]);
             Due.due(given + ", what stays", x.told(0, 3), one[0] - one[3]);
+        }
+    }
+
+    /** HOLD is reckoned of SIZE where silt or a breach leaves less room. */
+    private static void holdOfAllOfSize() {
+        for (int more = 0; more <= 1; more++) {
+            TankChain x = siltedBy(100, 100);
+            x.field(0, 0, 1, 0, false);
+            x.open(0, 20);
+            Due.take(x, "hold 40;");
+            Due.due("room over silt", x.told(0, 7), 98);
+            x.water(0, 40 + more);
+            x.day(0);
+            Due.due("given of " + (40 + more) + ", 40 of 100 held over silt", x.told(0, 8), more);
+            TankChain y = oneTank(1, 100, 0);
+            y.field(0, 0, 1, 0, false);
+            y.water(0, 100);
+            y.day(5);
+            y.open(0, 20);
+            Due.take(y, "hold 40;");
+            Due.due("room of one breached", y.told(0, 7), 0);
+            y.day(40 + more);
+            Due.due("given of " + (40 + more) + ", 40 of 100 held by one breached", y.told(0, 8), more);
+            Due.due("what it held goes down", y.told(0, 9), 40);
         }
     }
 
