@@ -29,6 +29,7 @@ public final class CutsTest {
         lostToOneBelow();
         openingsOfMost();
         mostOfAlikes();
+        mostOfFairShares();
         mostOverDays();
         sumsOfADay();
         toldBelowNothing();
@@ -795,6 +796,18 @@ public final class CutsTest {
         z.open(0, 0);
         Due.dueRow("a weak bank, tank 0 shut", mostOf(z, 1, 2, 1, 10), 10, 0, 10);
         Due.due("still whole", z.told(1, 6), 0);
+    }
+
+    /** What a field gets short of its AREA isn't fed, so it doesn't count. */
+    private static void mostOfFairShares() {
+        TankChain x = fair(10, 10);
+        x.water(0, 19);
+        Due.dueRow("most of 19 by 20, fair", mostOf(x, 0, 1, 1, 0), 10, 20);
+        x.water(0, 18);
+        Due.dueRow("most of 18 by 20, fair", mostOf(x, 0, 1, 1, 0), 0, 0);
+        x.water(0, 20);
+        Due.dueRow("most of 20 by 20, fair", mostOf(x, 0, 1, 1, 0), 20, 20);
+        Due.dueRow("most of 20 by 20, fair, two days", mostOf(x, 0, 1, 2, 0), 20, 20);
     }
 
     private static void mostOverDays() {
